@@ -17,6 +17,7 @@ public final class SidePonds {
     private static final int MOST_KNOTS = 64;
     private static final int MOST_BRACKETS = 8;
     private static final int MOST_LETTERS = 6;
+    private static final int MOST_NUMBER = 9999;
     private static final int MOST_FACTS = 24;
     private static final int MOST_UNDONE = 20;
     private static final int MOST_OPENINGS = 4;
@@ -1096,6 +1097,9 @@ public final class SidePonds {
          * It goes no deeper than its seven ranks for each of the brackets, of which a ninth is refused.
          */
         private void readRanked(int rank) {
+            if (fault != 0) {
+                return;
+            }
             if (rank >= PART_RANK) {
                 readPart();
                 return;
@@ -1140,28 +1144,20 @@ public final class SidePonds {
         private void readPart() {
             int kind = tape.kind();
             int value = tape.value();
-            if (kind == BRACKET) {
-                readBracket();
-            } else if (kind == NUMBER && value > FULL) {
+            if ((kind == BRACKET && brackets >= MOST_BRACKETS) || (kind == NUMBER && value > MOST_NUMBER)) {
                 fail(TOO_MUCH, tape.place());
+            } else if (kind == BRACKET) {
+                brackets++;
+                tape.advance();
+                readRanked(FIRST_RANK);
+                take(BRACKET_END);
+                brackets--;
             } else if (kind == NUMBER || (kind >= AREA && kind <= MINUTE)) {
                 takeKnot();
                 canal.laws.add(kind, value);
             } else {
                 fail(STRANGE, tape.place());
             }
-        }
-
-        private void readBracket() {
-            if (brackets >= MOST_BRACKETS) {
-                fail(TOO_MUCH, tape.place());
-                return;
-            }
-            brackets++;
-            tape.advance();
-            readRanked(FIRST_RANK);
-            take(BRACKET_END);
-            brackets--;
         }
 
         private void takeKnot() {
