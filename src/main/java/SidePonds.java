@@ -795,7 +795,8 @@ public final class SidePonds {
             tokens = 0;
             at = 0;
             int next = 0;
-            while (next < length) {
+            // each token takes a byte at least
+            for (int i = 0; i < MOST_BYTES && next < length; i++) {
                 int sign = bytes[next];
                 if (sign == 32 || sign == 10) {
                     next++;

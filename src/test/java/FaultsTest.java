@@ -34,6 +34,15 @@ public final class FaultsTest {
         fault(1, "|p");
         fault(1, "|5");
         fault(1, "|Pond p 1 0 0;");
+        fault(1, "|flow flow 1;");
+        fault(1, "|leak 1;");
+        fault(1, "|area;");
+        fault(1, "|not 1;");
+        fault(1, "|<>");
+        fault(1, "law |or 1;");
+        fault(1, "law |law 1;");
+        fault(1, "law |seed 1;");
+        fault(1, "|" + times(700, ";"));
         fault(1, "pond |");
         fault(1, "pond p 1 0 0|");
         fault(1, "pond p 1 0 0   |");
@@ -165,6 +174,7 @@ public final class FaultsTest {
         fine(2, "pond p1 0 0;pond q001 00 000;");
         fine(5, ponds(4) + "lock a 199 0;");
         fine(15, ponds(5) + tenPipes());
+        fine(16, ponds(5) + tenPipes() + "turn 9 0 1;");
         fine(15, PIPED + times(12, "turn 0 99 20;"));
         fine(10, POND + "lock p 1 1;" + times(8, "boat p 99;"));
         fine(2, "jam 100;seed 99999;");

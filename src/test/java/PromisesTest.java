@@ -40,6 +40,13 @@ public final class PromisesTest {
         x.feed(0x6a616d20, 0x37373bff, -1, -1, -1);
         due.is("first bytes alone", x.text(7), 1);
         due.is("jam 77", x.holds(1, 0), 23);
+        // what is behind the first n bytes does not belong to them
+        x.feed(0x706f6e64, 0x20616263, 0x64656667, 0x68000000, 0);
+        due.is("within a word", x.text(11), NONE);
+        due.is("more must come", x.fault(0) * 100 + x.fault(1), 111);
+        x.feed(0x6a616d20, 0x31303030, 0x3b000000, 0, 0);
+        due.is("within a number", x.text(7), NONE);
+        due.is("more must come", x.fault(0) * 100 + x.fault(1), 107);
     }
 
     private static void promises3and4() {
@@ -67,6 +74,22 @@ public final class PromisesTest {
         for (int what : new int[] {-1, 2, MAX, MIN}) {
             due.is("fault(" + what + ")", x.fault(what), NONE);
         }
+        // nothing of the text before the last is left
+        String much = "pond a 1 0 60;pond b 1 0 0;pipe a b 1;turn 0 0 20;spring a 3;lock a 1 1;boat a 0;jam 9;seed 5;"
+            + "law flow 1;law leak 2;law toll 3;";
+        for (int i = 0; i < 3; i++) {
+            due.is("much", Due.tell(x, much), 12);
+            due.is("knots", x.count(5), 3);
+            due.is("open", x.pipe(0, 3), 1);
+            due.is("laws", x.law(0, 0) * 100 + x.law(1, 0) * 10 + x.law(2, 0), 123);
+        }
+        due.is("little", Due.tell(x, "pond a 1 0 60;pond b 1 0 0;pipe a b 50;lock a 1 1;boat a 0;"), 5);
+        due.is("no knots", x.count(5), 0);
+        due.is("not open", x.pipe(0, 3), 0);
+        due.is("no flow", x.law(0, 0), Long.MIN_VALUE);
+        due.is("no leak", x.law(1, 0), Long.MIN_VALUE);
+        due.is("no toll", x.law(2, 0), Long.MIN_VALUE);
+        due.is("no spring", x.ahead(9, 0, 0), 60);
         // faults and their places: FaultsTest
     }
 
@@ -231,6 +254,11 @@ public final class PromisesTest {
         due.is("both sides", worth("0 and 1/0"), error);
         due.is("not", worth("not (1/0)"), error);
         due.is("at the limit", worth("1000*1000*1000*1000"), 1000000000000L);
+        due.is("at the limit", worth("1000*1000*1000*1000-1+1"), 1000000000000L);
+        due.is("at the other limit", worth("1000*1000*1000*(0-1000)"), -1000000000000L);
+        due.is("at the other limit", worth("(0-1000)*1000*1000*1000"), -1000000000000L);
+        due.is("at the limit", worth("(0-1000)*1000*1000*(0-1000)"), 1000000000000L);
+        due.is("above", worth("(1000*1000*1000*1000-1)*2"), error);
         due.is("above", worth("1000*1000*1000*1000+1"), error);
         due.is("at the other limit", worth("0-1000*1000*1000*1000"), -1000000000000L);
         due.is("below", worth("0-1000*1000*1000*1000-1"), error);
@@ -391,6 +419,8 @@ public final class PromisesTest {
         due.is("error", onceRun("law flow 1/0;law leak 1/0;"), 5);
         due.is("above", onceRun("law flow 9999;"), 40);
         due.is("below", onceRun("law flow 0-1;"), 0);
+        due.is("99 at most", ranAndLeaked("law flow 500;"), 800099);
+        due.is("99 at most", ranAndLeaked("law leak 500;"), 795000);
         due.is("leaks below 0", onceRun("law leak 0-5;"), 5);
         due.is("leaks above 99", onceRun("law leak 500;law flow 99;"), 0);
         due.is("toll above", onceTolled("law toll 1000;"), 999);
@@ -410,6 +440,12 @@ public final class PromisesTest {
         SidePonds x = Due.told("pond a 1 0 80;pond b 1 0 0;pipe a b 5;turn 0 0 1;" + laws);
         x.go(1);
         return x.pond(1, 2);
+    }
+
+    private static int ranAndLeaked(String laws) {
+        SidePonds x = Due.told("pond a 1 0 899;pond b 1 0 0;pipe a b 5;turn 0 0 1;" + laws);
+        x.go(1);
+        return (x.pond(0, 2)) * 1000 + x.pond(1, 2);
     }
 
     private static int onceTolled(String law) {
@@ -570,6 +606,19 @@ public final class PromisesTest {
         due.is("no what", x.still(2, 0), NONE);
         due.is("no what", x.still(-1, 0), NONE);
         due.is("jammed", jammedStill(), 0);
+        // little goes by a round here: 99 at most
+        SidePonds y = Due.told("pond a 19 0 385;pond b 1 86 834;pond c 2 0 747;pond d 19 70 0;pipe c d 1;pipe b c 1;pipe a b 1;");
+        due.is("at most", y.still(0, 0), 99);
+        int then = y.still(1, 2);
+        for (int round = 0; round < 99; round++) {
+            int ran = 0;
+            for (int pipe = 0; pipe < 3; pipe++) {
+                ran += y.draw(pipe, 999);
+            }
+            due.is("runs", ran > 0, true);
+        }
+        due.is("behind 99", y.pond(2, 2), then);
+        due.is("there is more", y.still(0, 0) > 0, true);
     }
 
     private static int jammedStill() {
@@ -736,6 +785,10 @@ public final class PromisesTest {
         for (int i = 7; i < 24; i++) {
             due.is("more", i % 2 == 0 ? x.see(60, 1, 9999, false) : x.strike(0), i);
         }
+        due.is("the first is struck", x.known(-1), true);
+        due.is("the first is struck", x.leaks(0) == 0b11111, false);
+        x.known(1);
+        due.is("struck by none of the first", x.leaks(0), 0b11111);
         due.is("full", x.see(1, 0, 0, true), NONE);
         due.is("full", x.strike(0), NONE);
         due.is("by 24", x.known(24), true);
@@ -761,6 +814,13 @@ public final class PromisesTest {
         // springs fill a by 9 a minute: by 0 .. 9 it differs from the first on; with much water spilt by a law of b's it comes later
         SidePonds y = Due.told("pond a 1 90 0;pond b 1 0 0;pipe a b 99;turn 0 0 20;spring a 9;law leak 99;");
         due.is("all runs away till minute 21", y.ask(0, 0) * 100 + y.ask(0, 1), 2101);
+        String drained = "pond a 1 90 0;pond b 1 0 0;pipe a b 99;spring a 9;law leak 99;";
+        SidePonds early = Due.told(drained + "turn 0 0 1;");
+        due.is("behind two", early.ask(0, 0) * 100 + early.ask(0, 1), 201);
+        SidePonds late = Due.told(drained + "turn 0 0 20;turn 0 20 20;turn 0 40 19;");
+        due.is("behind 60", late.ask(0, 0) * 100 + late.ask(0, 1), 6001);
+        SidePonds never = Due.told(drained + "turn 0 0 20;turn 0 20 20;turn 0 40 20;");
+        due.is("not by then", never.ask(0, 0) * 100 + never.ask(0, 1), 110);
     }
 
     private static void promise41() {
