@@ -345,7 +345,10 @@ public final class SidePonds {
 
     // ---- levels and heights
 
-    /** Water can't lie in fewer of the PONDS than are below it: the least of all such levels is the true one. */
+    /**
+     * Fills the PONDS up to each FLOOR alone; of these levels the least is the true one, as any other
+     * leaves out a POND that is lower or counts one that is higher.
+     */
     public int joined(int ponds, int what) {
         if (ponds < 1 || ponds >= 1 << canal.ponds || !isHalf(what)) {
             return NONE;
