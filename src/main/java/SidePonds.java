@@ -26,7 +26,7 @@ public final class SidePonds {
     private static final int MOST_UP_WHEN = 199;
     private static final int MOST_HEIGHT = 999;
     private static final int MOST_SPAN = 60;
-    private static final int LAST_START = 9800;
+    private static final int LAST_MINUTE = 9800;
     private static final int FULL = 9999;
     /** A turn begins in MINUTE 99 at the latest, for 20 MINUTES at most. */
     private static final int TURN_MINUTES = 119;
@@ -298,7 +298,7 @@ public final class SidePonds {
     }
 
     public int go(int n) {
-        if (n < 0 || n > MOST_AHEAD || now.minute > LAST_START) {
+        if (n < 0 || n > MOST_AHEAD || now.minute + n > LAST_MINUTE) {
             return NONE;
         }
         minutes.asItGoes();

@@ -387,6 +387,31 @@ public final class PromisesTest {
         return first;
     }
 
+    /** Not the MINUTE it is but the one it would be counts, and nothing changes by a go that is refused. */
+    private static void lastMinutes() {
+        SidePonds x = Due.told("pond a 2 0 10;spring a 1;law leak 1;");
+        for (int i = 1; i <= 48; i++) {
+            x.go(200);
+        }
+        due.is("ahead of the last ones", x.go(62), 9662);
+        x.keep();
+        x.fill(0, 5);
+        due.is("one too many", x.go(139), NONE);
+        due.is("more", x.go(140), NONE);
+        due.is("most", x.go(200), NONE);
+        due.is("the minute stays", x.count(6), 9662);
+        due.is("water stays", x.pond(0, 2), 15);
+        due.is("can be undone yet", x.count(15), 1);
+        due.is("it looks ahead all the same", x.ahead(200, 0, 0), 15);
+        due.is("up to the last one", x.go(138), 9800);
+        due.is("nothing to undo", x.count(15), 0);
+        due.is("behind", x.go(1), NONE);
+        due.is("back", x.back(), 9662);
+        due.is("and on again", x.go(137), 9799);
+        due.is("behind", x.go(2), NONE);
+        due.is("the last one", x.go(1), 9800);
+    }
+
     private static void promise17() {
         due.in("17 go");
         SidePonds x = Due.told("pond a 2 0 10;");
@@ -396,10 +421,11 @@ public final class PromisesTest {
         for (int i = 1; i <= 49; i++) {
             due.is("200", x.go(200), 200 * i);
         }
-        due.is("9800 is not behind it", x.go(1), 9801);
         due.is("behind", x.go(1), NONE);
-        due.is("behind", x.go(0), NONE);
-        due.is("stays", x.count(6), 9801);
+        due.is("behind", x.go(200), NONE);
+        due.is("stays", x.count(6), 9800);
+        due.is("9800 is not behind it", x.go(0), 9800);
+        lastMinutes();
         for (int seed : new int[] {0, 1, 77, 99999}) {
             for (int jam : new int[] {1, 5, 49, 50, 99}) {
                 SidePonds y = Due.told("pond a 1 0 0;pond b 1 0 0;pipe a b 1;turn 0 0 20;seed " + seed + ";jam " + jam + ";");
