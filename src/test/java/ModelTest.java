@@ -91,6 +91,10 @@ public final class ModelTest {
     }
 
     private void goOn(int n) {
+        if (m.now.minute + n > 9800) {
+            due.is("go behind", x.go(n), -1);
+            return;
+        }
         m.now = m.later(m.now, n, true, new Model.Otherwise());
         due.is("go", x.go(n), m.now.minute);
         if (n > 0) {
@@ -329,9 +333,20 @@ public final class ModelTest {
         due.is("left", x.ask(p, 1), ask[1]);
     }
 
+    /** To where some of the calls to come would go behind the last MINUTE. */
+    private void goNearTheLast() {
+        for (int i = 0; i < 48; i++) {
+            goOn(200);
+        }
+        goOn(150 + r.nextInt(50));
+    }
+
     private void run() {
         due.is("text", Due.tell(x, m.text), m.lines);
         compareState();
+        if (r.nextInt(25) == 0) {
+            goNearTheLast();
+        }
         for (int i = 0; i < 40; i++) {
             act();
             if (i % 4 == 0) {
