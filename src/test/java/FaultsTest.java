@@ -5,24 +5,12 @@ public final class FaultsTest {
     private static final String TWO = "pond p 1 0 0;pond q 1 0 0;";
     private static final String PIPED = TWO + "pipe p q 1;";
 
-    /** A bar marks the place of the fault. */
     private static void fault(int which, String marked) {
-        int place = marked.indexOf('|');
-        String text = marked.substring(0, place) + marked.substring(place + 1);
-        SidePonds x = new SidePonds();
-        due.in(marked.replace('\n', ' '));
-        due.is("text", Due.tell(x, text), SidePonds.NONE);
-        due.is("fault(0)", x.fault(0), which);
-        due.is("fault(1)", x.fault(1), place);
+        due.fault(which, marked);
     }
 
     private static SidePonds fine(int lines, String text) {
-        SidePonds x = new SidePonds();
-        due.in(text.replace('\n', ' '));
-        due.is("text", Due.tell(x, text), lines);
-        due.is("fault(0)", x.fault(0), 0);
-        due.is("fault(1)", x.fault(1), SidePonds.NONE);
-        return x;
+        return due.fine(lines, text);
     }
 
     private static String times(int n, String part) {

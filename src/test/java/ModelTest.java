@@ -4,10 +4,14 @@ import java.util.Deque;
 import java.util.List;
 import java.util.Random;
 
-/** Runs of calls by chance on canals by chance, each answer compared with the Model's (all promises but the faults). */
+/**
+ * Runs of calls by chance on canals by chance, each answer compared with the Model's (all promises but the faults).
+ * An object is used for at most 512 calls, as nothing is promised beyond.
+ */
 public final class ModelTest {
     private static final Due due = new Due();
-    private static final int RUNS = 250;
+    private static final int RUNS = 300;
+    private static final int MOST_CALLS = 512;
 
     private final Random r;
     private final Model m;
@@ -16,11 +20,26 @@ public final class ModelTest {
     private final List<int[]> facts = new ArrayList<>();
     private Model.State image;
     private int known = -1;
+    private int calls;
 
     private ModelTest(int seed) {
         r = new Random(seed);
         m = new Model(r);
         due.in("run " + seed + " of " + m.text.replace('\n', ' '));
+    }
+
+    /** One call and its answer. */
+    private void is(String call, long got, long want) {
+        calls++;
+        due.is(call, got, want);
+    }
+
+    private void is(String call, boolean got, boolean want) {
+        is(call, got ? 1 : 0, want ? 1 : 0);
+    }
+
+    private boolean hasRoom(int more) {
+        return calls + more <= MOST_CALLS;
     }
 
     private int pond() {
@@ -46,15 +65,15 @@ public final class ModelTest {
             case 2:
                 note();
                 m.now.water[p] = m.now.water[p] >= 9999 ? m.now.water[p] : Math.min(9999, m.now.water[p] + by);
-                due.is("fill", x.fill(p, by), m.now.water[p]);
+                is("fill", x.fill(p, by), m.now.water[p]);
                 break;
             case 3:
                 if (m.now.water[p] < by) {
-                    due.is("spill", x.spill(p, by), -2);
+                    is("spill", x.spill(p, by), -2);
                 } else {
                     note();
                     m.now.water[p] -= by;
-                    due.is("spill", x.spill(p, by), m.now.water[p]);
+                    is("spill", x.spill(p, by), m.now.water[p]);
                 }
                 break;
             case 4: mendOnce(); break;
@@ -72,10 +91,10 @@ public final class ModelTest {
         int pipe = r.nextInt(m.pipes.size());
         int most = r.nextBoolean() ? 999 : 1 + r.nextInt(9);
         if (m.now.jammed[pipe]) {
-            due.is("draw", x.draw(pipe, most), -2);
+            is("draw", x.draw(pipe, most), -2);
         } else {
             note();
-            due.is("draw", x.draw(pipe, most), m.run(m.now, pipe, most));
+            is("draw", x.draw(pipe, most), m.run(m.now, pipe, most));
         }
     }
 
@@ -86,17 +105,17 @@ public final class ModelTest {
                 note();
             }
             m.now.jammed[pipe] = false;
-            due.is("mend", x.mend(pipe), was);
+            is("mend", x.mend(pipe), was);
         }
     }
 
     private void goOn(int n) {
         if (m.now.minute + n > 9800) {
-            due.is("go behind", x.go(n), -1);
+            is("go behind", x.go(n), -1);
             return;
         }
         m.now = m.later(m.now, n, true, new Model.Otherwise());
-        due.is("go", x.go(n), m.now.minute);
+        is("go", x.go(n), m.now.minute);
         if (n > 0) {
             undone.clear();
         }
@@ -104,23 +123,23 @@ public final class ModelTest {
 
     private void undoOnce() {
         if (undone.isEmpty()) {
-            due.is("undo", x.undo(), -1);
+            is("undo", x.undo(), -1);
         } else {
             m.now = undone.removeLast();
-            due.is("undo", x.undo(), undone.size());
+            is("undo", x.undo(), undone.size());
         }
     }
 
     private void keepOrBack() {
         if (r.nextBoolean()) {
             image = m.now.copy();
-            due.is("keep", x.keep(), m.now.minute);
+            is("keep", x.keep(), m.now.minute);
         } else if (image == null) {
-            due.is("back", x.back(), -1);
+            is("back", x.back(), -1);
         } else {
             m.now = image.copy();
             undone.clear();
-            due.is("back", x.back(), m.now.minute);
+            is("back", x.back(), m.now.minute);
         }
     }
 
@@ -128,7 +147,7 @@ public final class ModelTest {
         boolean full = facts.size() >= 24;
         if (r.nextInt(4) == 0 && !facts.isEmpty()) {
             int struck = r.nextInt(facts.size());
-            due.is("strike", x.strike(struck), full ? -1 : facts.size());
+            is("strike", x.strike(struck), full ? -1 : facts.size());
             if (!full) {
                 facts.add(new int[] {-1, struck});
             }
@@ -141,27 +160,27 @@ public final class ModelTest {
         o.leakBy = r.nextInt(10);
         int water = (int) Math.min(9999, m.later(m.start(), minutes, false, o).water[p] + r.nextInt(2));
         boolean atLeast = r.nextBoolean();
-        due.is("see", x.see(minutes, p, water, atLeast), full ? -1 : facts.size());
+        is("see", x.see(minutes, p, water, atLeast), full ? -1 : facts.size());
         if (!full) {
             facts.add(new int[] {minutes, p, water, atLeast ? 1 : 0});
         }
         if (r.nextInt(3) == 0) {
             known = r.nextInt(facts.size() + 2) - 1;
-            due.is("known", x.known(known), true);
+            is("known", x.known(known), true);
         }
     }
 
     private void compareState() {
         long water = 0;
         for (int p = 0; p < m.ponds.size(); p++) {
-            due.is("water", x.pond(p, 2), m.now.water[p]);
-            due.is("spring", x.pond(p, 3), m.springs[p]);
+            is("water", x.pond(p, 2), m.now.water[p]);
+            is("spring", x.pond(p, 3), m.springs[p]);
             long[] level = Model.least(m.above(m.now, p), m.area(p));
-            due.is("level above", x.level(p, 0), level[0]);
-            due.is("level below", x.level(p, 1), level[1]);
+            is("level above", x.level(p, 0), level[0]);
+            is("level below", x.level(p, 1), level[1]);
             Long leak = m.worth(m.now, 1, p, 0, new Model.Otherwise());
-            due.is("law leak", x.law(1, p), leak == null ? Long.MIN_VALUE : leak);
-            due.is("reach", x.reach(p), m.reach(p));
+            is("law leak", x.law(1, p), leak == null ? Long.MIN_VALUE : leak);
+            is("reach", x.reach(p), m.reach(p));
             water += m.now.water[p];
         }
         comparePipes();
@@ -170,7 +189,7 @@ public final class ModelTest {
             m.now.minute, water, in(), m.up(m.now), m.waited(m.now), m.now.toll, m.jammed(m.now), facts.size(),
             knownNow(), undone.size()};
         for (int what = 0; what < counts.length; what++) {
-            due.is("count(" + what + ")", x.count(what), counts[what]);
+            is("count(" + what + ")", x.count(what), counts[what]);
         }
     }
 
@@ -186,14 +205,15 @@ public final class ModelTest {
         for (int p = 0; p < m.pipes.size(); p++) {
             int[] pipe = m.pipes.get(p);
             Model.State s = m.now.copy();
-            due.is("pipe ends", x.pipe(p, 0) * 10 + x.pipe(p, 1), pipe[0] * 10 + pipe[1]);
-            due.is("wide", x.pipe(p, 2), pipe[2]);
-            due.is("open", x.pipe(p, 3), m.isOpen(m.now, p, new Model.Otherwise()) ? 1 : 0);
-            due.is("jammed", x.pipe(p, 4), m.now.jammed[p] ? 1 : 0);
-            due.is("runs from", x.runs(p, 1), m.from(m.now, p));
-            due.is("runs", x.runs(p, 0), m.run(s, p, Long.MAX_VALUE));
+            is("one end", x.pipe(p, 0), pipe[0]);
+            is("other end", x.pipe(p, 1), pipe[1]);
+            is("wide", x.pipe(p, 2), pipe[2]);
+            is("open", x.pipe(p, 3), m.isOpen(m.now, p, new Model.Otherwise()) ? 1 : 0);
+            is("jammed", x.pipe(p, 4), m.now.jammed[p] ? 1 : 0);
+            is("runs from", x.runs(p, 1), m.from(m.now, p));
+            is("runs", x.runs(p, 0), m.run(s, p, Long.MAX_VALUE));
             Long flow = m.worth(m.now, 0, m.from(m.now, p), pipe[2], new Model.Otherwise());
-            due.is("law flow", x.law(0, p), flow == null ? Long.MIN_VALUE : flow);
+            is("law flow", x.law(0, p), flow == null ? Long.MIN_VALUE : flow);
         }
     }
 
@@ -204,20 +224,23 @@ public final class ModelTest {
             for (int b = 0; b < m.boats.size(); b++) {
                 in = m.now.stage[b] == 1 && m.boats.get(b)[0] == l ? b : in;
             }
-            due.is("boat in", x.lock(l, 3), in);
-            due.is("lock", x.lock(l, 0) * 40000 + x.lock(l, 1) * 200 + x.lock(l, 2), lock[0] * 40000 + lock[1] * 200 + lock[2]);
-            due.is("lock of a pond", x.pond(lock[0], 4), l);
+            is("boat in", x.lock(l, 3), in);
+            for (int what = 0; what < 3; what++) {
+                is("lock " + what, x.lock(l, what), lock[what]);
+            }
+            is("lock of a pond", x.pond(lock[0], 4), l);
             int lift = m.area(lock[0]) * Math.max(0, lock[2] - lock[1]);
-            due.is("lift", x.lift(l), lift);
+            is("lift", x.lift(l), lift);
             int p = pond();
-            due.is("lockfuls", x.lockfuls(p, l), lift == 0 ? 999 : m.now.water[p] / lift);
+            is("lockfuls", x.lockfuls(p, l), lift == 0 ? 999 : m.now.water[p] / lift);
         }
         for (int b = 0; b < m.boats.size(); b++) {
-            due.is("boat", x.boat(b, 0) * 100 + x.boat(b, 1), m.boats.get(b)[0] * 100 + m.boats.get(b)[1]);
-            due.is("stage", x.boat(b, 2), m.now.stage[b]);
-            due.is("waited", x.boat(b, 3), m.now.waited[b]);
+            is("lock of a boat", x.boat(b, 0), m.boats.get(b)[0]);
+            is("from", x.boat(b, 1), m.boats.get(b)[1]);
+            is("stage", x.boat(b, 2), m.now.stage[b]);
+            is("waited", x.boat(b, 3), m.now.waited[b]);
             Long toll = m.worth(m.now, 2, m.locks.get(m.boats.get(b)[0])[0], 0, new Model.Otherwise());
-            due.is("law toll", x.law(2, b), toll == null ? Long.MIN_VALUE : toll);
+            is("law toll", x.law(2, b), toll == null ? Long.MIN_VALUE : toll);
         }
     }
 
@@ -225,11 +248,11 @@ public final class ModelTest {
         int n = r.nextInt(r.nextBoolean() ? 201 : 20);
         Model.State s = m.later(m.now, n, false, new Model.Otherwise());
         int p = pond();
-        due.is("ahead water", x.ahead(n, 0, p), s.water[p]);
-        due.is("ahead up", x.ahead(n, 1, p), m.up(s));
-        due.is("ahead waited", x.ahead(n, 2, p), m.waited(s) - m.waited(m.now));
-        due.is("ahead jammed", x.ahead(n, 3, p), m.jammed(s));
-        due.is("ahead toll", x.ahead(n, 4, p), s.toll - m.now.toll);
+        is("ahead water", x.ahead(n, 0, p), s.water[p]);
+        is("ahead up", x.ahead(n, 1, p), m.up(s));
+        is("ahead waited", x.ahead(n, 2, p), m.waited(s) - m.waited(m.now));
+        is("ahead jammed", x.ahead(n, 3, p), m.jammed(s));
+        is("ahead toll", x.ahead(n, 4, p), s.toll - m.now.toll);
         for (int b = 0; b < m.boats.size(); b++) {
             Model.State t = m.now.copy();
             int when = 0;
@@ -237,26 +260,26 @@ public final class ModelTest {
                 m.minute(t, false, new Model.Otherwise());
                 when++;
             }
-            due.is("upWhen", x.upWhen(b), when > 199 ? -2 : when);
+            is("upWhen", x.upWhen(b), when > 199 ? -2 : when);
         }
         for (int what = 0; what < 5; what++) {
             if (what != 2 || !m.pipes.isEmpty()) {
                 int i = what == 2 ? r.nextInt(m.pipes.size()) : 0;
-                due.is("tried(" + what + ")", x.tried(what, i, n), m.tried(what, i, n));
+                is("tried(" + what + ")", x.tried(what, i, n), m.tried(what, i, n));
             }
         }
         if (!m.pipes.isEmpty()) {
             int seed = r.nextInt() & Integer.MAX_VALUE;
             int pipe = r.nextInt(m.pipes.size());
             int minutes = 1 + r.nextInt(40);
-            due.is("chance", x.chance(seed, minutes, pipe), m.chance(seed, minutes, pipe));
+            is("chance", x.chance(seed, minutes, pipe), m.chance(seed, minutes, pipe));
         }
     }
 
     private void compareLevels() {
         int bits = 1 + r.nextInt((1 << m.ponds.size()) - 1);
-        due.is("joined above", x.joined(bits, 0), m.joined(bits)[0]);
-        due.is("joined below", x.joined(bits, 1), m.joined(bits)[1]);
+        is("joined above", x.joined(bits, 0), m.joined(bits)[0]);
+        is("joined below", x.joined(bits, 1), m.joined(bits)[1]);
         int p = pond();
         int q = pond();
         int height = (int) (m.above(m.now, p) / m.area(p)) - 2 + r.nextInt(6);
@@ -267,46 +290,46 @@ public final class ModelTest {
             s.water[p]++;
             need++;
         }
-        due.is("needs", x.needs(p, height), need);
+        is("needs", x.needs(p, height), need);
         s = m.now.copy();
         long spare = 0;
         while (s.water[p] > 0 && m.atLeast(s, p, height)) {
             s.water[p]--;
             spare += m.atLeast(s, p, height) ? 1 : 0;
         }
-        due.is("spare", x.spare(p, height), spare);
+        is("spare", x.spare(p, height), spare);
         int[] game = m.game(p, height);
-        due.is("game", x.game(p, height, 0), game[0]);
-        due.is("game draws", x.game(p, height, 1), game[1]);
+        is("game", x.game(p, height, 0), game[0]);
+        is("game draws", x.game(p, height, 1), game[1]);
         int high = 0;
         int low = 0;
         for (int k = 1; k < m.ponds.size(); k++) {
             high = m.compareLevels(m.now, k, high) > 0 ? k : high;
             low = m.compareLevels(m.now, k, low) < 0 ? k : low;
         }
-        due.is("highest", x.highest(0), high);
-        due.is("lowest", x.highest(1), low);
+        is("highest", x.highest(0), high);
+        is("lowest", x.highest(1), low);
         long by = Math.abs(m.above(m.now, p) * m.area(q) - m.above(m.now, q) * m.area(p));
         long[] apart = Model.least(by, (long) m.area(p) * m.area(q));
-        due.is("apart above", x.apart(p, q, 0), apart[0]);
-        due.is("apart below", x.apart(p, q, 1), apart[1]);
+        is("apart above", x.apart(p, q, 0), apart[0]);
+        is("apart below", x.apart(p, q, 1), apart[1]);
         long[] still = m.still();
-        due.is("still", x.still(0, 0), still[0]);
-        due.is("still water", x.still(1, p), still[1 + p]);
+        is("still", x.still(0, 0), still[0]);
+        is("still water", x.still(1, p), still[1 + p]);
         compareTwo(p, q);
     }
 
     private void compareTwo(int p, int q) {
         if (p == q) {
-            due.is("pass", x.pass(p, q), -1);
-            due.is("rests", x.rests(p, q), -1);
+            is("pass", x.pass(p, q), -1);
+            is("rests", x.rests(p, q), -1);
             return;
         }
-        due.is("pass", x.pass(p, q), m.pass(p, q));
+        is("pass", x.pass(p, q), m.pass(p, q));
         List<Integer> rests = m.rests(p, q);
-        due.is("rests", x.rests(p, q), rests.size());
+        is("rests", x.rests(p, q), rests.size());
         for (int k = 0; k < 4; k++) {
-            due.is("rest", x.rest(p, q, k), k < rests.size() ? rests.get(k) : -2);
+            is("rest", x.rest(p, q, k), k < rests.size() ? rests.get(k) : -2);
         }
     }
 
@@ -318,19 +341,19 @@ public final class ModelTest {
             return;
         }
         int[] fewest = m.fewest(p, height);
-        due.is("fewest", x.fewest(p, height, 0), fewest == null ? -2 : fewest[0]);
-        due.is("first", x.fewest(p, height, 1), fewest == null ? -2 : fewest[1]);
+        is("fewest", x.fewest(p, height, 0), fewest == null ? -2 : fewest[0]);
+        is("first", x.fewest(p, height, 1), fewest == null ? -2 : fewest[1]);
         if (p != q) {
-            due.is("draws", x.draws(p, height, q), m.draws(p, height, q));
+            is("draws", x.draws(p, height, q), m.draws(p, height, q));
         }
     }
 
     private void compareFacts() {
         int p = pond();
-        due.is("leaks", x.leaks(p), m.leaks(p, facts, knownNow()));
+        is("leaks", x.leaks(p), m.leaks(p, facts, knownNow()));
         int[] ask = m.ask(p, facts, knownNow());
-        due.is("ask", x.ask(p, 0), ask[0]);
-        due.is("left", x.ask(p, 1), ask[1]);
+        is("ask", x.ask(p, 0), ask[0]);
+        is("left", x.ask(p, 1), ask[1]);
     }
 
     /** To where some of the calls to come would go behind the last MINUTE. */
@@ -341,28 +364,51 @@ public final class ModelTest {
         goOn(150 + r.nextInt(50));
     }
 
+    private void compareHolds() {
+        int n = r.nextInt(7);
+        long[] holds = Model.least(power(100 - m.jam, n), power(100, n));
+        is("holds above", x.holds(n, 0), holds[0]);
+        is("holds below", x.holds(n, 1), holds[1]);
+    }
+
+    private static long power(long of, int n) {
+        long power = 1;
+        for (int i = 0; i < n; i++) {
+            power *= of;
+        }
+        return power;
+    }
+
+    /** What comes next, by chance; each as far as there is room for all of its calls. */
+    private void step() {
+        int chosen = r.nextInt(12);
+        if (chosen == 0 && hasRoom(220)) {
+            compareState();
+        } else if (chosen == 1 && hasRoom(40)) {
+            compareLevels();
+        } else if (chosen == 2 && hasRoom(30)) {
+            compareWhatComes();
+        } else if (chosen == 3 && hasRoom(10)) {
+            compareOpenings();
+        } else if (chosen == 4 && hasRoom(10)) {
+            compareFacts();
+        } else if (chosen == 5 && hasRoom(10)) {
+            compareHolds();
+        } else if (hasRoom(12)) {
+            act();
+        }
+    }
+
     private void run() {
-        due.is("text", Due.tell(x, m.text), m.lines);
-        compareState();
+        calls = (m.text.length() + 19) / 20;
+        is("text", Due.tell(x, m.text), m.lines);
         if (r.nextInt(25) == 0) {
             goNearTheLast();
         }
-        for (int i = 0; i < 40; i++) {
-            act();
-            if (i % 4 == 0) {
-                compareState();
-                compareLevels();
-            }
-            if (i % 13 == 0) {
-                compareWhatComes();
-                compareOpenings();
-            }
+        for (int i = 0; i < 120; i++) {
+            step();
         }
-        compareState();
-        compareFacts();
-        long[] holds = Model.least((long) Math.pow(100 - m.jam, 3), 1000000);
-        due.is("holds above", x.holds(3, 0), holds[0]);
-        due.is("holds below", x.holds(3, 1), holds[1]);
+        due.is("no more calls than promised", calls <= MOST_CALLS, true);
     }
 
     public static void main(String[] args) {
