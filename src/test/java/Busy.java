@@ -4,8 +4,8 @@
  */
 final class Busy {
     static final String TEXT = "pond a 2 10 40;pond b 3 8 0;pond c 4 0 9;pond d 1 30 99;lock b 12 16;lock c 3 5;"
-        + "pipe a b 7;pipe b c 5;pipe d a 9;turn 0 0 9;turn 1 2 20;turn 2 4 9;turn 2 50 3;"
-        + "boat b 0;boat c 1;boat c 2;spring a 3;spring d 9;jam 5;seed 81;"
+        + "pipe a b 7;pipe b c 5;pipe d a 9;turn 0 0 9;turn 0 14 20;turn 1 2 20;turn 1 22 9;turn 2 4 9;turn 2 14 20;"
+        + "boat b 0;boat c 1;boat c 2;spring a 3;spring d 9;jam 25;seed 2652;"
         + "law flow wide-1;law leak water/20+1;law toll boats+floor;";
 
     private Busy() {
@@ -13,9 +13,16 @@ final class Busy {
 
     /** Without bytes on the TAPE. */
     static SidePonds canal() {
+        return canal(true);
+    }
+
+    /** Without bytes on the TAPE, and with an IMAGE or without. */
+    static SidePonds canal(boolean withImage) {
         SidePonds x = Due.told(TEXT);
         x.go(9);
-        x.keep();
+        if (withImage) {
+            x.keep();
+        }
         x.go(4);
         x.fill(3, 9);
         x.draw(0, 2);
@@ -30,7 +37,10 @@ final class Busy {
     }
 
     static SidePonds withTape() {
-        SidePonds x = canal();
+        return withTape(canal());
+    }
+
+    static SidePonds withTape(SidePonds x) {
         Due.feed(x, "seed 9;pond zz 1 2 3;pond yy 1 2");
         return x;
     }
@@ -48,21 +58,21 @@ final class Busy {
             b.append(x.leaks(pond)).append(' ');
         }
         addUndone(b.append("undone "), x);
-        x.go(3);
-        addState(b.append("later "), x);
+        addJams(b.append("later "), x);
+        addState(b, x);
         addFacts(b.append("facts "), x);
         b.append("back ").append(x.back()).append(' ');
-        x.go(4);
         addState(b, x);
+        addJams(b.append("later "), x);
         return b.toString();
     }
 
-    /** The TAPE, too. */
+    /** The TAPE, too: how many bytes it has ahead of all else, what they are behind it, as a TEXT ends all. */
     static String whole(SidePonds x) {
-        StringBuilder b = new StringBuilder(all(x, true));
         int held = x.feed(0x20202020, 0x20202020, 0x20202020, 0x20202020, 0x20202020);
-        b.append("tape ").append(held).append(' ').append(x.text(held < 0 ? 700 : held)).append(' ').append(x.fault(0));
-        b.append(' ').append(x.fault(1)).append(' ').append(x.count(0)).append(x.named(Due.letters("zz")));
+        StringBuilder b = new StringBuilder("tape ").append(held).append(' ').append(all(x, true));
+        b.append(x.text(held < 0 ? 700 : held)).append(' ').append(x.fault(0)).append(' ').append(x.fault(1)).append(' ');
+        b.append(x.count(0)).append(x.named(Due.letters("zz")));
         return b.toString();
     }
 
@@ -113,6 +123,16 @@ final class Busy {
             if (left < 0) {
                 return;
             }
+        }
+    }
+
+    /** Which of the first PIPES jam in the next MINUTES, as the numbers come. */
+    private static void addJams(StringBuilder b, SidePonds x) {
+        for (int minute = 0; minute < 6; minute++) {
+            for (int pipe = 0; pipe < 3; pipe++) {
+                b.append(x.mend(pipe) ? 1 : 0);
+            }
+            b.append(x.go(1)).append(' ');
         }
     }
 

@@ -95,6 +95,7 @@ public final class RefusedTest {
         bounds(Busy::withTape, "fault", (x, n) -> x.fault(n), NONE, 0, 0);
         bounds(RefusedTest::faulty, "fault", (x, n) -> x.fault(n), NONE, 0, 1);
         changesNothing("fault", (x, n) -> x.fault(n), MIN, -1, 0, 1, 2, MAX);
+        changesNothing("text", (x, n) -> x.text(n), MIN, -1, 41, 700, 701, MAX);
         changesNothing("named", (x, n) -> x.named(n), MIN, -1, 0, 1 << 25, MAX);
         asks("pond", (x, n) -> pondAnswer(x, n, 0), NO_POND, 0, 3);
         asks("pond's what", (x, n) -> pondAnswer(x, 3, n), NO_WHAT, 0, 4);
@@ -170,15 +171,33 @@ public final class RefusedTest {
             changesNothing("spill of too much", (x, n) -> x.spill(which, n), water + 1, 99);
             due.is("NONE goes first", busy.spill(pond, 100), NONE);
         }
-        SidePonds x = bare();
+        SidePonds x = nothingToUndo();
         due.is("undo", x.undo(), NONE);
-        due.is("back", x.back(), NONE);
-        due.is("behind undo, back of none", Busy.whole(x), Busy.whole(bare()));
+        due.is("behind undo of none", Busy.whole(x), Busy.whole(nothingToUndo()));
+        SidePonds y = Busy.withTape(Busy.canal(false));
+        due.is("back", y.back(), NONE);
+        due.is("behind back of none", Busy.whole(y), Busy.whole(Busy.withTape(Busy.canal(false))));
     }
 
-    private static SidePonds bare() {
-        SidePonds x = Due.told(Busy.TEXT);
-        x.go(7);
+    private static SidePonds nothingToUndo() {
+        SidePonds x = Busy.withTape();
+        x.go(1);
+        return x;
+    }
+
+    /** NONE, and none come, if the TAPE would have more than 700. */
+    private static void fullTape() {
+        due.in("2 feed");
+        SidePonds x = fed();
+        for (int word : new int[] {0, 0x706f6e64, -1}) {
+            due.is("feed", x.feed(word, word, word, word, word), NONE);
+        }
+        due.is("behind it", Busy.whole(x), Busy.whole(fed()));
+    }
+
+    private static SidePonds fed() {
+        SidePonds x = Busy.canal();
+        due.is("all 700", Due.feed(x, "pond zz 1 2 3;\n".repeat(46) + "seed 5;   "), 700);
         return x;
     }
 
@@ -359,7 +378,7 @@ public final class RefusedTest {
     /** What is asked ahead of it is nothing to an answer, nor is what went by ahead of a new TEXT. */
     private static void askedAhead() {
         due.in("asked ahead");
-        for (String text : new String[] {Busy.TEXT, Busy.TEXT.replace("jam 5;", "jam 50;"), Busy.TEXT.replace("jam 5;", "jam 60;")}) {
+        for (String text : new String[] {Busy.TEXT, Busy.TEXT.replace("jam 25;", "jam 50;"), Busy.TEXT.replace("jam 25;", "jam 60;")}) {
             long[] alone = new long[QUESTIONS.length];
             for (int i = 0; i < alone.length; i++) {
                 alone[i] = QUESTIONS[i].of(asked(text), 0);
@@ -462,6 +481,7 @@ public final class RefusedTest {
         laws();
         doing();
         refusedAsItIs();
+        fullTape();
         goBehind();
         whatComes();
         levels();

@@ -604,7 +604,7 @@ public final class TextEdgesTest {
     /** With a TEXT: MINUTE 0, WATER as told, nothing JAMMED, all BOATS wait, no TOLL ..: as on a new object. */
     private static void allIsNew() {
         due.in("all is new");
-        String[] texts = {Busy.TEXT, Busy.TEXT.replace("seed 81;", ""), Busy.TEXT.replace("jam 5;", ""), ponds(7) + pipes(10) + "lock a 0 9;boat a 0;turn 0 0 20;", "", ONE, TWO, PIPED,
+        String[] texts = {Busy.TEXT, Busy.TEXT.replace("seed 2652;", ""), Busy.TEXT.replace("jam 25;", ""), ponds(7) + pipes(10) + "lock a 0 9;boat a 0;turn 0 0 20;", "", ONE, TWO, PIPED,
             TWO + "lock q 0 0;boat q 0;pipe p q 1;turn 0 0 20;seed 5;jam 20;"};
         for (String text : texts) {
             for (int ahead = 0; ahead < 4; ahead++) {
