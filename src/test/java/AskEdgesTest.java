@@ -241,6 +241,8 @@ public final class AskEdgesTest {
     private static void highest() {
         due.in("highest");
         due.is("alone", Due.told("pond a 1 0 0;").highest(0) + Due.told("pond a 1 0 0;").highest(1), 0);
+        due.is("by one measure", Due.told("pond a 1 0 1;pond b 1 0 2;").highest(0), 1);
+        due.is("by one measure", Due.told("pond a 1 0 2;pond b 1 0 1;").highest(1), 1);
         String[] texts = {"pond a 2 1 2;pond b 4 1 4;pond c 6 2 0;", "pond a 2 1 1;pond b 4 1 4;pond c 6 2 0;",
             "pond a 2 1 3;pond b 4 1 4;pond c 6 2 0;", "pond a 2 1 2;pond b 4 1 5;pond c 6 2 0;", "pond a 2 1 2;pond b 4 1 3;pond c 6 2 0;",
             "pond a 2 1 2;pond b 4 1 4;pond c 6 2 1;", "pond a 2 1 2;pond b 4 1 4;pond c 6 1 5;", "pond a 6 1 5;pond b 3 1 4;pond c 9 1 7;",
@@ -675,6 +677,10 @@ public final class AskEdgesTest {
         due.is("2 in, 1 on: not low enough, not in", y.tried(4, 0, 9), 0);
         SidePonds z = Due.told("pond a 1 90 90;pond b 1 0 0;pond c 1 2 0;pipe a b 5;pipe c b 1;lock b 2 2;boat b 0;law flow open;");
         due.is("just 2 of both", z.tried(4, 0, 1), 1);
+        due.is("each of them", Due.told("pond c 1 0 0;pond d 1 0 0;" + TRY.replace("turn 0 1 2;", "").replace("lock b 0", "lock b 5")
+            + "pipe c d 1;").tried(4, 0, 2), 1);
+        due.is("each of them", Due.told("pond c 1 0 0;pond d 1 0 0;pipe c d 1;" + TRY.replace("turn 0 1 2;", "")
+            .replace("lock b 0", "lock b 5")).tried(4, 0, 2), 1);
         due.is("turns do not matter", Due.told(TRY.replace("lock b 0", "lock b 5").replace("turn 0 1 2;", "")).tried(4, 0, 2), 1);
         due.is("nor the last minutes", late(TRY.replace("lock b 0", "lock b 5")).tried(4, 0, 1), 1);
     }

@@ -261,6 +261,9 @@ public final class RefusedTest {
         due.in("20 to 28");
         asks("joined", (x, n) -> x.joined(n, 0), NONE, 1, 15);
         asks("joined's what", (x, n) -> x.joined(15, n), NONE, 0, 1);
+        for (int bits : new int[] {16, 17, 24, 31, 32, 33, 63, 127, 128, 129, 1 << 30, MIN + 1, -15}) {
+            due.is("joined of none such", Busy.canal().joined(bits, 0), NONE);
+        }
         asks("needs", (x, n) -> x.needs(n, 30), NONE, 0, 3);
         asks("needs' height", (x, n) -> x.needs(1, n), NONE, 0, 999);
         asks("spare", (x, n) -> x.spare(n, 3), NONE, 0, 3);
